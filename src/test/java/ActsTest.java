@@ -106,8 +106,15 @@ public final class ActsTest {
         Check.due("stock at most", sky.count(6), 999);
         Check.due("pulled ones are not gone", sky.count(9), 0);
         Check.due("rust without a pin", sky.place(3, 5), 0);
+        Check.due("one more in stock", pullOne("pin 3;stock 5").count(6), 6);
         Check.due("what", sky.log(1, 2), 2);
         Check.due("rust", sky.log(1, 3), 5);
+    }
+
+    private static PinnedSky pullOne(String text) {
+        PinnedSky sky = Check.sky(text);
+        sky.pull(3);
+        return sky;
     }
 
     private static void handing() {
@@ -331,6 +338,13 @@ public final class ActsTest {
         sky.pull(1);
         Check.due("back again", sky.back(), true);
         Check.due("the image stays", sky.count(7), 6);
+        PinnedSky logged = Check.sky("pin 3 rust 3;pin 4 rust 4");
+        logged.pull(3);
+        logged.image();
+        logged.undo();
+        logged.pull(4);
+        logged.back();
+        Check.due("the row of the image", logged.log(0, 1) * 100 + logged.log(0, 3), 303);
         PinnedSky lawless = Check.sky("pin 1");
         lawless.image();
         lawless.law();

@@ -19,6 +19,7 @@ public final class AsksTest {
         ahead();
         odds();
         needsAndTrialAndSpan();
+        changesAreSeen();
         nothingStays();
         Check.finish("AsksTest");
     }
@@ -69,6 +70,8 @@ public final class AsksTest {
         // 2 gone: 4 holds, so as many stand as now, but not the same
         Check.due("key by numbers", swap.key(), 0);
         Check.due("spare by places", swap.spare(), Check.set(4));
+        Check.due("key at both ends", Check.sky("pin 0;pin 15;need 0 20;need 15 20").key(), Check.set(0, 15));
+        Check.due("spare at both ends", Check.sky("pin 0;pin 15").spare(), Check.set(0, 15));
         Check.due("no key", new PinnedSky().key(), 0);
         Check.due("no spare", new PinnedSky().spare(), 0);
     }
@@ -217,8 +220,14 @@ public final class AsksTest {
         Check.due("the least that parts them best", climbBy(sky, 5, 20), 0);
         PinnedSky bare = Check.sky("pin 2;pin 5;pin 14;bare 0;bare 1;bare 2");
         Check.due("with a ladder", climbBy(bare, 5, 20), 3);
+        // of none, 2, 3 and both gone, 40 is seen at 2 by two, at 3 by two; at 1 it hangs 37, 34, 37, 0
+        PinnedSky high = Check.sky("pin 2;pin 3;height 40;tight 3;bare 0;bare 1");
+        Check.due("at the greatest height", climbBy(high), 2);
+        PinnedSky same = Check.sky("pin 2;pin 9;height 40;tight 0;bare 0");
+        Check.due("all at 40 but one", climbBy(same), 1);
         Check.due("one set alone", climbBy(sky, 5, 11, 14, 0), -1);
         Check.due("no set", climbBy(sky, 5, 12), -1);
+        Check.due("two sets", climbBy(Check.sky("pin 4;bare 0")), 1);
         StringBuilder text = new StringBuilder("bare 0");
         for (int place = 1; place < 14; place++) {
             text.append(";bare ").append(place);
@@ -295,6 +304,15 @@ public final class AsksTest {
         Check.throwsDue("no place", IndexOutOfBoundsException.class, () -> sky.stars(16, 4));
         Check.throwsDue("no place to", IndexOutOfBoundsException.class, () -> sky.stars(5, -1));
         Check.due("longest", sky.longest(), 9);
+        PinnedSky full = Check.sky("pin 0;pin 1;pin 2;pin 3;pin 4;pin 5;pin 6;pin 7;pin 8;pin 9;pin 10;pin 11");
+        Check.tape(full, "pin 12;pin 13;pin 14;pin 15");
+        full.sky();
+        Check.due("no place without one", full.longest(), 0);
+        Check.due("all places", full.stars(0, 15), 16);
+        Check.due("sets of 16 pins", seenBy(full, false), 137);
+        Check.due("climb by 16 pins", climbBy(full), 0);
+        Check.due("no place for a new one", full.first(), -1);
+        Check.due("all are held", full.held(), 65535);
         Check.due("at the end", Check.sky("pin 3").longest(), 12);
         Check.due("at the begin", Check.sky("pin 14").longest(), 14);
     }
@@ -353,6 +371,9 @@ public final class AsksTest {
         Check.due("span, the fewest", sky.span(1, false), fewest);
         Check.due("span, the most", sky.span(1, true), most);
         Check.due("span of no day", sky.span(0, true), 0);
+        for (int seed = 1; seed <= 7; seed++) {
+            spanOfOneSeed(seed);
+        }
         for (int n : new int[] {-1, 61}) {
             Check.throwsDue("needs " + n, IllegalArgumentException.class, () -> sky.needs(n));
             Check.throwsDue("trial " + n, IllegalArgumentException.class, () -> sky.trial(n, true));
@@ -362,9 +383,54 @@ public final class AsksTest {
 
     /** Whether the gale of the first day from a seed finds one of the pins 14, 11 and 1. */
     private static int onePinGone(int seed) {
-        int second = 1103515245 * (1103515245 * seed + 12345) + 12345;
-        int place = (second >> 16 & 32767) % 16;
+        int place = galePlace(seed);
         return place == 14 || place == 11 || place == 1 ? 1 : 0;
+    }
+
+    /** A pin where the first gale from this seed alone comes down. */
+    private static void spanOfOneSeed(int seed) {
+        int others = 0;
+        for (int other = 1; other <= 6; other++) {
+            others += other != seed && galePlace(other) == galePlace(seed) ? 1 : 0;
+        }
+        PinnedSky sky = Check.sky("gale 100;pin " + galePlace(seed));
+        Check.due("the most by seed " + seed, sky.span(1, true), seed <= 6 || others > 0 ? 1 : 0);
+        Check.due("the fewest by seed " + seed, sky.span(1, false), 0);
+    }
+
+    private static int galePlace(int seed) {
+        int second = 1103515245 * (1103515245 * seed + 12345) + 12345;
+        return (second >> 16 & 32767) % 16;
+    }
+
+    /** What was asked ahead of an act, a day or a text must not be answered again behind it. */
+    private static void changesAreSeen() {
+        PinnedSky pulled = Check.sky("pin 4 rust 60;need 4 20");
+        Check.due("it does not hold", pulled.held(), 0);
+        pulled.pull(4);
+        Check.due("first by a new one", pulled.first(), 4);
+        Check.due("fewest by a new one", pulled.fewest(-1), Check.set(4));
+        PinnedSky game = Check.sky("pin 4 rust 60;need 4 20;need 9 20");
+        game.low();
+        game.pull(4);
+        // the guild sets one of two pins that it needs
+        Check.due("duke by a new one", game.duke(), 2);
+        PinnedSky dated = Check.sky("pin 4", "strain 30 if day>0;strain 30 if day>0;rust 0");
+        dated.days(1);
+        Check.due("seen on day 1", seenBy(dated, false, 4, 0), 2);
+        PinnedSky pinned = Check.sky("pin 4 rust 59;pinner 4 pace 1 brass 1");
+        pinned.held();
+        pinned.days(1);
+        Check.due("gone", pinned.held(), 0);
+        pinned.pin(0);
+        Check.due("seen by the new one", seenBy(pinned, false, 4, 20), 1);
+        PinnedSky law = Check.sky("pin 4;need 4 20");
+        law.spare();
+        Check.tape(law, "strain 30;strain 30");
+        law.law();
+        Check.due("seen by the law", seenBy(law, false, 4, 20), 0);
+        Check.due("duke by the law", law.duke(), 32);
+        Check.due("first by the law", law.first(), 0);
     }
 
     private static void nothingStays() {

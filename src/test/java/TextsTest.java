@@ -123,6 +123,9 @@ public final class TextsTest {
         skyFault("pin 1 rusty 1", 6);
         skyFault("pins 1", 0);
         skyFault("Pin 1", 0);
+        skyFault("bin 1", 0);
+        skyFault("pinz 1", 0);
+        skyFault("apin 1", 0);
         skyFault("pin\t1", 3);
         skyFault("pin 1;;", 6);
         skyFault("pin 1; ", 7);
@@ -280,6 +283,9 @@ public final class TextsTest {
         Check.due("laddered, bare", strain("laddered", 4), 0);
         Check.due("tree", strain("tree>2 and tree<4", 9), 5);
         Check.due("less is not the same", strain("place<2", 2), 0);
+        PinnedSky later = Check.sky("", "strain 5 if 0<1 and 0+0<1 and not 0>0;strain 6 if day<4;strain 7 if day>2");
+        later.days(3);
+        Check.due("noughts and days on day 3", later.place(0, 6), 18);
         Check.due("more is not the same", strain("place>2", 2), 0);
         PinnedSky alone = Check.sky("pin 5", "strain 3 if gap>15 and gap<17;strain 4;rust 2;rust 3 if gap>15;rust 9 if gap<16");
         Check.due("strain of an only pin", alone.place(5, 6), 7);
