@@ -1,4 +1,6 @@
 import java.nio.charset.StandardCharsets;
+import java.util.function.Function;
+import java.util.function.Supplier;
 
 /** What the tests share: comparing answers, counting the wrong ones, feeding texts and bytes. */
 final class Check {
@@ -9,15 +11,21 @@ final class Check {
 
     private static int wrong = 0;
     private static int looked = 0;
+    private static String told = "";
 
     private Check() {
+    }
+
+    /** All that is looked at from here on, up to the next such call, holds this sentence of the document. */
+    static void holds(int promise, String sentence) {
+        told = "promise " + promise + " \"" + sentence + "\": ";
     }
 
     static void due(String call, Object got, Object want) {
         looked++;
         if (!got.equals(want)) {
             wrong++;
-            System.out.println(call + " answered " + got + ", due is " + want);
+            System.out.println(told + call + " answered " + got + ", due is " + want);
         }
     }
 
@@ -31,6 +39,24 @@ final class Check {
         } catch (RuntimeException e) {
             return "throws." + e.getClass().getSimpleName();
         }
+    }
+
+    /** A refused call throws this, and all behind it is as on a twin on which it was not made. */
+    static void refused(String call, Class<? extends RuntimeException> want, Supplier<PinnedSky> made,
+            Function<PinnedSky, Object> refusal) {
+        PinnedSky sky = made.get();
+        throwsDue(call, want, () -> refusal.apply(sky));
+        due("all behind " + call, State.toTheEnd(sky), State.toTheEnd(made.get()));
+    }
+
+    /** Likewise of a call that uses the tape up: the twin's tape is emptied. */
+    static void refusedWithItsTape(String call, Class<? extends RuntimeException> want, Supplier<PinnedSky> made,
+            Function<PinnedSky, Object> refusal) {
+        PinnedSky sky = made.get();
+        throwsDue(call, want, () -> refusal.apply(sky));
+        PinnedSky twin = made.get();
+        twin.end(0);
+        due("all behind " + call, State.toTheEnd(sky), State.toTheEnd(twin));
     }
 
     static void finish(String name) {
@@ -75,8 +101,34 @@ final class Check {
 
     static PinnedSky sky(String text, String law) {
         PinnedSky sky = sky(text);
+        law(sky, law);
+        return sky;
+    }
+
+    /** One more text of a sky: how many there are. */
+    static int more(PinnedSky sky, String text) {
+        tape(sky, text);
+        return sky.sky();
+    }
+
+    static int law(PinnedSky sky, String law) {
         tape(sky, law);
-        sky.law();
+        return sky.law();
+    }
+
+    /** Lines of a text, the same for each of these places, with the place for every #. */
+    static String each(String line, int from, int to) {
+        StringBuilder text = new StringBuilder();
+        for (int place = from; place <= to; place++) {
+            text.append(place == from ? "" : ";").append(line.replace("#", "" + place));
+        }
+        return text.toString();
+    }
+
+    /** A new sky in which this line was told of all 16 places, in two texts. */
+    static PinnedSky everywhere(String line) {
+        PinnedSky sky = sky(each(line, 0, 7));
+        more(sky, each(line, 8, 15));
         return sky;
     }
 

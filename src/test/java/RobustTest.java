@@ -2,11 +2,11 @@ import java.lang.management.ManagementFactory;
 import java.lang.reflect.InvocationTargetException;
 import java.lang.reflect.Method;
 import java.lang.reflect.Modifier;
-import java.util.ArrayList;
 import java.util.Arrays;
 import java.util.Comparator;
 import java.util.List;
 import java.util.Random;
+import java.util.Set;
 
 /** Any argument in any state: a call throws only what its face tells, leaves all as it was then, and makes nothing. */
 public final class RobustTest {
@@ -20,72 +20,85 @@ public final class RobustTest {
     private static final String[] LAWS = {"", "hold", "strain 30;strain 30 if gap<3;rust 3 if day>2 or not pinned",
         "rust 30;hold if place>7 and laddered"};
 
+    private static final Set<String> READS_A_TEXT = Set.of("sky", "law");
+    private static final Set<String> USES_THE_TAPE_UP = Set.of("sky", "law", "goes", "seen", "climb");
+    private static final int MOST_CALLS = 512;
+    private static final int CALLS_AHEAD_OF_A_REFUSED_ONE = 60;
+
     public static void main(String[] args) throws IllegalAccessException {
         Method[] methods = Arrays.stream(PinnedSky.class.getDeclaredMethods())
             .filter(method -> Modifier.isPublic(method.getModifiers()))
             .sorted(Comparator.comparing(Method::getName)).toArray(Method[]::new);
-        for (int run = 0; run < 150; run++) {
-            anyCalls(methods, new Random(run));
+        for (int run = 0; run < 300; run++) {
+            anyCalls(methods, new PinnedSky(), new Random(run), MOST_CALLS);
+        }
+        for (int run = 0; run < 3000; run++) {
+            refusedCall(methods, run);
         }
         makesNothing();
         Check.finish("RobustTest");
     }
 
-    private static void anyCalls(Method[] methods, Random random) throws IllegalAccessException {
-        PinnedSky sky = new PinnedSky();
-        for (int i = 0; i < 450; i++) {
-            if (random.nextInt(12) == 0) {
-                Check.tape(sky, TEXTS[random.nextInt(TEXTS.length)]);
-            } else if (random.nextInt(12) == 0) {
-                Check.tape(sky, LAWS[random.nextInt(LAWS.length)]);
-            }
-            Method method = methods[random.nextInt(methods.length)];
-            Object[] values = new Object[method.getParameterCount()];
-            for (int k = 0; k < values.length; k++) {
-                values[k] = method.getParameterTypes()[k] == boolean.class ? (Object) random.nextBoolean()
-                    : (Object) EXTREMES[random.nextInt(EXTREMES.length)];
-            }
-            String before = all(sky);
-            try {
-                method.invoke(sky, values);
-            } catch (InvocationTargetException e) {
-                List<Class<?>> told = Arrays.asList(method.getExceptionTypes());
-                String call = method.getName() + Arrays.toString(values);
-                Check.due(call + " may throw " + e.getCause(), told.contains(e.getCause().getClass()), true);
-                Check.due("all behind " + call + " that threw", all(sky), before);
+    /** So many calls, those that feed the tape counted: whatever is thrown is told in the face. */
+    private static void anyCalls(Method[] methods, PinnedSky sky, Random random, int calls)
+            throws IllegalAccessException {
+        int made = 0;
+        while (made < calls) {
+            if (random.nextInt(6) == 0) {
+                String[] texts = random.nextBoolean() ? TEXTS : LAWS;
+                String text = texts[random.nextInt(texts.length)];
+                made += (text.length() + 19) / 20 + 1;
+                if (made < calls) {
+                    Check.tape(sky, text);
+                }
+            } else {
+                made++;
+                outcome(methods[random.nextInt(methods.length)], sky, random);
             }
         }
     }
 
-    /** All that can be asked without the tape; fault is left out, as a wrong text tells it. */
-    private static String all(PinnedSky sky) {
-        List<Integer> all = new ArrayList<>();
-        for (int what = 0; what < 12; what++) {
-            all.add(sky.count(what));
+    /** What the call threw, or null. */
+    private static Class<?> outcome(Method method, PinnedSky sky, Random random) throws IllegalAccessException {
+        Object[] values = new Object[method.getParameterCount()];
+        for (int k = 0; k < values.length; k++) {
+            values[k] = method.getParameterTypes()[k] == boolean.class ? (Object) random.nextBoolean()
+                : (Object) EXTREMES[random.nextInt(EXTREMES.length)];
         }
-        for (int place = 0; place < 16; place++) {
-            for (int what = 0; what < 10; what++) {
-                all.add(sky.place(place, what));
-            }
-            all.add(sky.rusts(place));
+        try {
+            method.invoke(sky, values);
+            return null;
+        } catch (InvocationTargetException e) {
+            List<Class<?>> told = Arrays.asList(method.getExceptionTypes());
+            Check.due(method.getName() + Arrays.toString(values) + " may throw " + e.getCause(),
+                told.contains(e.getCause().getClass()), true);
+            return e.getCause().getClass();
         }
-        for (int pinner = 0; pinner < sky.count(0); pinner++) {
-            for (int what = 0; what < 3; what++) {
-                all.add(sky.pinner(pinner, what));
-            }
+    }
+
+    /** A call that throws changes nothing but the tape, where it is used up: as a twin without that call. */
+    private static void refusedCall(Method[] methods, int run) throws IllegalAccessException {
+        PinnedSky sky = new PinnedSky();
+        PinnedSky twin = new PinnedSky();
+        int ahead = run % CALLS_AHEAD_OF_A_REFUSED_ONE;
+        anyCalls(methods, sky, new Random(run), ahead);
+        anyCalls(methods, twin, new Random(run), ahead);
+        Random random = new Random(-1 - run);
+        Method method = methods[random.nextInt(methods.length)];
+        if (outcome(method, sky, random) == null) {
+            return;
         }
-        for (int ago = 0; ago < sky.count(10); ago++) {
-            for (int what = 0; what < 4; what++) {
-                all.add(sky.log(ago, what));
-            }
+        if (USES_THE_TAPE_UP.contains(method.getName())) {
+            twin.end(0);
         }
-        for (int gales = 0; gales < 3; gales++) {
-            all.add(sky.odds(2, gales));
+        String due = State.toTheEnd(twin);
+        String got = State.toTheEnd(sky);
+        if (READS_A_TEXT.contains(method.getName())) {
+            // fault() alone tells of the wrong text
+            due = due.replaceFirst("fault -?[0-9]+", "");
+            got = got.replaceFirst("fault -?[0-9]+", "");
         }
-        int seed = sky.seed(1);
-        sky.seed(seed);
-        all.add(seed);
-        return all.toString();
+        Check.due("all behind " + method.getName() + " that threw in run " + run, got, due);
     }
 
     /** The room is one for all calls of a run: calls that do not throw make no object. */
