@@ -325,10 +325,7 @@ public final class PinnedSky {
         if (!last) {
             return down + up + Math.min(down, up);
         }
-        if (down == 0) {
-            return highest;
-        }
-        return up == 0 || down >= up ? lowest : highest;
+        return down >= up ? lowest : highest;
     }
 
     public int goes(int pinner) throws IndexOutOfBoundsException, IllegalArgumentException {
@@ -495,8 +492,9 @@ public final class PinnedSky {
         for (int gales = k; gales <= n; gales++) {
             ways += choices(n, gales) * power(now.gale, gales) * power(100 - now.gale, n - gales);
         }
-        // power(100, n) is 1 at least, so it divides
-        return (int) (ways * 10000 / power(100, n));
+        // what it divides by is 1 at least; the test keeps the division safe all the same
+        long all = power(100, n);
+        return all < 1 ? 0 : (int) (ways * 10000 / all);
     }
 
     public int needs(int n) throws IllegalArgumentException {

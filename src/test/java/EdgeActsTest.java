@@ -63,6 +63,8 @@ public final class EdgeActsTest {
         Check.refused("pin without brass", IllegalStateException.class, EdgeActsTest::rich, sky -> sky.pin(2));
         Check.refused("pin without a ladder, on a pin, without brass", IllegalStateException.class,
             () -> Check.sky("pin 3;bare 3;pinner 3 pace 1 brass 0"), sky -> sky.pin(0));
+        Check.refused("pin without a ladder alone", IllegalStateException.class,
+            () -> Check.sky("bare 3;pinner 3 pace 1 brass 9"), sky -> sky.pin(0));
         Check.holds(10, "IndexOutOfBoundsException: there is no such PLACE, PINNER.");
         for (int pinner : NO_PINNER) {
             Check.refused("pin " + pinner, IndexOutOfBoundsException.class, EdgeActsTest::rich, sky -> sky.pin(pinner));
@@ -216,6 +218,8 @@ public final class EdgeActsTest {
         Check.refused("more than 30 by 1", IllegalStateException.class, EdgeActsTest::rich, sky -> sky.hand(0, 29));
         Check.due("30 by 28", rich().hand(0, 28), 30);
         Check.refused("1 to one who has 30", IllegalStateException.class, EdgeActsTest::rich, sky -> sky.hand(1, 1));
+        Check.refused("2 to one who has 29", IllegalStateException.class,
+            () -> Check.sky("pinner 1 pace 1 brass 29;stock 9"), sky -> sky.hand(0, 2));
         Check.refused("one more than the stock", IllegalStateException.class,
             () -> Check.sky("pinner 1 pace 1 brass 0;stock 4"), sky -> sky.hand(0, 5));
         Check.refused("of no stock", IllegalStateException.class,

@@ -198,6 +198,7 @@ public final class EdgeHoldingTest {
         PinnedSky pulled = Check.sky("need 3 20;pin 3 rust 99");
         pulled.pull(3);
         Check.due("where a rusty one was", pulled.fewest(8), Check.set(3));
+        Check.due("first, where a rusty one was", pulled.first(), 3);
     }
 
     private static void fewestHold() {
@@ -232,6 +233,8 @@ public final class EdgeHoldingTest {
         Check.due("no ladder at 0 to 13", lastLadders().first(), 14);
         PinnedSky lone = Check.sky("need 3 20;pin 3 rust 40", "strain 20 if gap>15");
         Check.due("by what an old one holds", lone.first(), 0);
+        Check.due("what an old one does is done", Check.sky("pin 4;need 3 17;need 5 17;need 10 20").first(), 10);
+        Check.due("what an old one does not", Check.sky("pin 4 rust 60;need 3 17;need 5 17;need 10 20").first(), 2);
         PinnedSky close = Check.sky("pin 8 rust 40;need 8 20;bare 0", "strain 20 if gap<8");
         Check.due("no place far enough: the least, though one goes", close.first(), 1);
     }

@@ -159,6 +159,11 @@ public final class EdgeLawTest {
         Check.law(sky, "rust 5;rust 7 if place>3;rust 11 if place<4");
         Check.due("by two that hold", sky.rusts(3), 16);
         Check.due("by two others that hold", sky.rusts(15), 12);
+        PinnedSky gaps = Check.sky("pin 3;pin 5;pin 15;bare 14", "rust 4 if gap<3;rust 9 if gap>9");
+        Check.due("by a gap of 2", gaps.rusts(5), 4);
+        Check.due("by a gap of 10", gaps.rusts(15), 9);
+        gaps.pull(5);
+        Check.due("by a gap of 12", gaps.rusts(3), 9);
         Check.holds(9, "What the PIN of a PLACE RUSTS by now (0 without).");
         Check.due("without a pin", sky.rusts(4), 0);
         Check.due("at place 0", sky.rusts(0), 0);
@@ -212,6 +217,19 @@ public final class EdgeLawTest {
         wrong("hold if gap</", 12);
         wrong("hold if gap<:", 12);
         Check.holds(5, "a word that is none");
+        for (String word : new String[] {"strain", "rust", "hold"}) {
+            Misspelt.each(word, other -> wrong(other + " 3", 0));
+        }
+        Misspelt.each("if", other -> wrong("hold " + other + " pinned", 5));
+        for (String word : new String[] {"pinned", "laddered", "not"}) {
+            Misspelt.each(word, other -> wrong("hold if " + other + " pinned", 8));
+        }
+        for (String word : new String[] {"place", "tree", "rust", "ground", "gap", "day"}) {
+            Misspelt.each(word, other -> wrong("hold if " + other + "<3", 8));
+            Misspelt.each(word, other -> wrong("hold if 3<" + other, 10));
+        }
+        Misspelt.each("and", other -> wrong("hold if pinned " + other + " pinned", 15));
+        Misspelt.each("or", other -> wrong("hold if pinned " + other + " pinned", 15));
         wrong("tax 3", 0);
         wrong("pin 3", 0);
         wrong("need 3", 0);
@@ -367,9 +385,23 @@ public final class EdgeLawTest {
         Check.holds(5, "pinned: it has a PIN; laddered: it has a LADDER");
         Check.due("pinned", isSo(sky, "pinned", 4), true);
         Check.due("pinned without a pin", isSo(sky, "pinned", 3), false);
+        pinnedInEachKindOfLine();
         Check.due("laddered", isSo(sky, "laddered", 0), true);
         Check.due("laddered, bare", isSo(sky, "laddered", 15), false);
         Check.due("laddered, bare too", isSo(sky, "laddered", 3), false);
+    }
+
+    /** A line that asks "pinned" is asked of pins that are there, and of new ones that only might be. */
+    private static void pinnedInEachKindOfLine() {
+        Check.due("rust if pinned", Check.sky("pin 3", "rust 5 if pinned").rusts(3), 5);
+        Check.due("rust if not pinned", Check.sky("pin 3", "rust 5 if not pinned").rusts(3), 0);
+        Check.due("hold if pinned", Check.sky("pin 3 rust 99", "hold if pinned").held(), Check.set(3));
+        Check.due("hold if not pinned", Check.sky("pin 3 rust 99", "hold if not pinned").held(), 0);
+        String strain = "strain 30 if pinned;strain 30 if pinned";
+        Check.due("strain if pinned", Check.sky("pin 3", strain).held(), 0);
+        Check.due("strain if not pinned", Check.sky("pin 3", strain.replace("pinned", "not pinned")).held(), Check.set(3));
+        Check.due("strain if pinned of a new one", Check.sky("need 3 1", strain).fewest(8), -1);
+        Check.due("gone by strain if pinned", Check.sky("pin 3", strain).days(1), 1);
     }
 
     private static int gap(PinnedSky sky, int place) {

@@ -11,6 +11,7 @@ public final class EdgeLogTest {
         whatIsNoRow();
         sixtyRows();
         roundAndRound();
+        roundAndUndone();
         refusedWhat();
         ledOfNone();
         ledOfSome();
@@ -137,6 +138,26 @@ public final class EdgeLogTest {
             Check.due("what that was", sky.log(ago + 1, 2), 0);
         }
         Check.due("no older one", sky.log(60, 0), -1);
+    }
+
+    private static void roundAndUndone() {
+        Check.holds(44, "the latest 60 PINS that came or went");
+        PinnedSky sky = turns(40);
+        sky.image();
+        sky.pin(0);
+        row(sky, 0, 40, 2, 0, 0);
+        row(sky, 59, 11, 2, 2, 1);
+        sky.undo();
+        row(sky, 0, 40, 2, 2, 1);
+        row(sky, 59, 10, 2, 0, 0);
+        sky.days(7);
+        sky.pin(0);
+        row(sky, 0, 47, 2, 0, 0);
+        row(sky, 1, 40, 2, 2, 1);
+        sky.back();
+        row(sky, 0, 40, 2, 2, 1);
+        row(sky, 59, 10, 2, 0, 0);
+        Check.due("60 rows", sky.count(10), 60);
     }
 
     private static PinnedSky rich() {

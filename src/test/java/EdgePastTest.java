@@ -283,6 +283,14 @@ public final class EdgePastTest {
         twin.image();
         twin.back();
         Check.due("all is as it was kept", State.toTheEnd(sky), State.toTheEnd(twin));
+        PinnedSky lawful = Check.sky("pin 3;pin 9 rust 70", "strain 4;rust 2;hold if place>8");
+        lawful.image();
+        Check.law(lawful, "rust 9");
+        lawful.back();
+        Check.due("the law's lines", lawful.count(2), 3);
+        Check.due("strain by it", lawful.place(3, 6), 4);
+        Check.due("rust by it", lawful.rusts(3), 2);
+        Check.due("held by it", lawful.held(), Check.set(3, 9));
         PinnedSky blank = new PinnedSky();
         blank.image();
         Check.more(blank, "pin 3;stock 9");

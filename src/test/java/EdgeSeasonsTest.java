@@ -56,6 +56,14 @@ public final class EdgeSeasonsTest {
         // at height 1 place 8 alone has more than 0
         Check.due("39 of height 40, tight 1", high.pay(39), 15);
         Check.due("no pin", new PinnedSky().pay(19), 0);
+        PinnedSky slack = Check.sky("pin 3;need 9 14;tight 1");
+        Check.due("14 of 14, six steps by 1", slack.pay(0), 0);
+        Check.due("13 of 14, six steps by 1", slack.pay(1), 1);
+        PinnedSky other = Check.sky("pin 3;need 3 20;ground 3 9;height 30;need 6 20;tight 1");
+        Check.due("29 of 29 at 3, 26 of 20 at 6", other.pay(1), 0);
+        Check.due("28 of 29 at 3", other.pay(2), 1);
+        Check.due("20 of 20 at 6", other.pay(7), 1);
+        Check.due("19 of 20 at 6", other.pay(8), 2);
     }
 
     private static void refusedPay() {
@@ -91,6 +99,9 @@ public final class EdgeSeasonsTest {
         // one more step away it would not by 40, and counts no more
         Check.due("41 would be needed", Check.sky("pin 3;need 4 20;ground 4 9;tree 4 5;tight 2").best(), 1);
         Check.due("the most of two", Check.sky("pin 3;need 3 7;need 4 5").best(), 8);
+        Check.due("by its tight, 1", Check.sky("pin 3;need 5 10;tight 1").best(), 12);
+        Check.due("by its tight, 9", Check.sky("pin 3;need 5 10;tight 9").best(), 28);
+        Check.due("by its tight, 0", Check.sky("pin 3;need 15 20;tight 0").best(), 20);
         Check.due("from above", best(40), 8);
         Check.due("from below", best(1), 8);
         PinnedSky sky = Check.sky("pin 3;need 3 7");
@@ -368,10 +379,41 @@ public final class EdgeSeasonsTest {
         Check.due("0 days, fewest", all.span(0, false), 0);
         Check.due("1 day: one each", all.span(1, false) * 100 + all.span(1, true), 101);
         Check.due("60 days: all", all.span(60, false) * 100 + all.span(60, true), 1616);
+        spanOfSeedsNextToThem();
         all.seed(77);
         all.span(60, true);
         Check.due("the seed is as it was", all.seed(77), 77);
         Check.due("without winds all seeds are alike", Check.sky("pin 3").span(60, false), 1);
+    }
+
+    private static int gone(String text, int seed, int days) {
+        PinnedSky sky = Check.sky(text, "rust 0");
+        sky.seed(seed);
+        return sky.trial(days, false);
+    }
+
+    /** Skies of two pins of which SEED 0, or 7, would take more, or fewer, than any of 1 to 6: they do not count. */
+    private static void spanOfSeedsNextToThem() {
+        int found = 0;
+        for (int place = 0; place < 15; place++) {
+            for (int days = 1; days <= 9; days++) {
+                String text = "gale 100;pin " + place + ";pin " + (place + 1);
+                int fewest = 2;
+                int most = 0;
+                for (int seed = 1; seed <= 6; seed++) {
+                    fewest = Math.min(fewest, gone(text, seed, days));
+                    most = Math.max(most, gone(text, seed, days));
+                }
+                int below = gone(text, 0, days);
+                int above = gone(text, 7, days);
+                found |= (below < fewest ? 1 : 0) | (below > most ? 2 : 0) | (above < fewest ? 4 : 0) | (above > most ? 8 : 0);
+                PinnedSky sky = Check.sky(text, "rust 0");
+                Check.due("fewest of " + text + " in " + days, sky.span(days, false), fewest);
+                Check.due("most of " + text + " in " + days, sky.span(days, true), most);
+            }
+        }
+        Check.due("a seed next to them that takes more or fewer was found on either side",
+            (found & 3) != 0 && (found & 12) != 0, true);
     }
 
     private static void refusedSpan() {

@@ -14,6 +14,7 @@ public final class EdgeSeenTest {
         climbByParts();
         refusedClimb();
         dukeWithoutChoices();
+        dukeAskedAgain();
         dukeOfAllPins();
         dukeAndGuild();
         Check.finish("EdgeSeenTest");
@@ -204,6 +205,11 @@ public final class EdgeSeenTest {
         // 2 is there: none, 9, 14, both gone; at 2 and 3 it is the same for all, at 8 it hangs 11, 0, 11, 0
         Check.due("of those that fit", climb(told, 2, 20), 7);
         Check.due("all 137 sets", climb(Check.everywhere("pin #")), 0);
+        // where a tree takes all 18, it hangs at 0 with the pin and without
+        Check.due("trees hide it", climb(Check.sky("pin 7;tight 0;height 18;tree 0 9;tree 1 9")), 2);
+        Check.due("trees of 8 do not", climb(Check.sky("pin 7;tight 0;height 18;tree 0 9;tree 1 8")), 1);
+        Check.due("5 does not hold, there or gone", climb(Check.sky("pin 5 rust 60;pin 15;tight 9;height 9")), 15);
+        Check.due("5 holds", climb(Check.sky("pin 5 rust 59;pin 15;tight 9;height 9")), 5);
     }
 
     private static void refusedClimb() {
@@ -231,6 +237,20 @@ public final class EdgeSeenTest {
         Check.due("no pin: one place of need", Check.sky("need 3 20").duke(), 1);
         Check.due("no pin, no ladder there", Check.sky("need 3 20;bare 3").duke(), 16);
         Check.due("three places do", Check.sky("need 3 17").duke(), 3);
+    }
+
+    /** A choice that there was when it was asked before counts no more. */
+    private static void dukeAskedAgain() {
+        Check.holds(31, "a guild sets one new PIN (RUST 0, at a PLACE with a LADDER and without a PIN now), or none");
+        PinnedSky sky = Check.sky("need 3 20");
+        Check.due("the guild sets 3", sky.duke(), 1);
+        Check.more(sky, "bare 3");
+        Check.due("it cannot any more", sky.duke(), 16);
+        PinnedSky pulled = Check.sky("pin 3;pin 9;need 3 20;need 9 20");
+        Check.due("either of both, any of 15", pulled.duke(), 30);
+        pulled.pull(3);
+        // the guild sets 3, he pulls 9
+        Check.due("he cannot pull 3 any more", pulled.duke(), 1);
     }
 
     private static void dukeOfAllPins() {

@@ -312,6 +312,13 @@ public final class EdgeSkyTextTest {
         wrong("apin 3", 0);
         wrong("pina 3", 0);
         Check.holds(4, "a word that is none");
+        for (String word : new String[] {"pin", "ground", "need", "tree", "bare", "pinner", "height", "tight", "gale",
+            "moths", "stock"}) {
+            Misspelt.each(word, other -> wrong(other + " 1", 0));
+        }
+        Misspelt.each("rust", other -> wrong("pin 1 " + other + " 1", 6));
+        Misspelt.each("pace", other -> wrong("pinner 1 " + other + " 1", 9));
+        Misspelt.each("brass", other -> wrong("pinner 1 pace 1 " + other + " 1", 16));
         wrong("star 3", 0);
         wrong("rust 3", 0);
         wrong("pace 3", 0);

@@ -3,7 +3,8 @@ import java.util.Random;
 
 /** Random runs of calls, each answer compared with the model's. */
 public final class ModelTest {
-    private static final int CALLS = 500;
+    /** Some below the 512 that an object is made for, as a step may be many calls. */
+    private static final int CALLS = 480;
     private static final String[] SKY_BITS = {"pin", "rust", "ground", "need", "tree", "bare", "pinner", "pace",
         "brass", "height", "tight", "gale", "moths", "stock", ";", " ", "0", "1", "15", "99", "1000", "x", ";;"};
     private static final String[] LAW_BITS = {"strain", "rust", "hold", "if", "and", "or", "not", "(", ")", "<",

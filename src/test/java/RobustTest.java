@@ -105,12 +105,17 @@ public final class RobustTest {
     private static void makesNothing() {
         com.sun.management.ThreadMXBean bean =
             (com.sun.management.ThreadMXBean) ManagementFactory.getThreadMXBean();
-        PinnedSky sky = Check.sky("pin 1 rust 20;pin 5;pin 11;need 3 19;need 9 12;pinner 2 pace 3 brass 30;stock 50",
-            "strain 2 if gap<5;rust 1 if (day>2 or not laddered);hold if place<2");
-        allCalls(sky);
+        PinnedSky[] skies = new PinnedSky[10];
+        for (int i = 0; i < skies.length; i++) {
+            skies[i] = Check.sky("pin 1 rust 20;pin 5;pin 11;need 3 19;need 9 12;pinner 2 pace 3 brass 30;stock 50",
+                "strain 2 if gap<5;rust 1 if (day>2 or not laddered);hold if place<2");
+            allCalls(skies[i]);
+        }
         long before = bean.getCurrentThreadAllocatedBytes();
-        for (int i = 0; i < 50; i++) {
-            allCalls(sky);
+        for (PinnedSky sky : skies) {
+            for (int i = 0; i < 5; i++) {
+                allCalls(sky);
+            }
         }
         long made = bean.getCurrentThreadAllocatedBytes() - before;
         if (made > 20_000) {
