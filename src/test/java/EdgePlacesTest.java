@@ -15,6 +15,7 @@ public final class EdgePlacesTest {
         tightAndHeightAtTheirBounds();
         pinnersFrom0On();
         whatOfAPinner();
+        refusedAsking();
         Check.finish("EdgePlacesTest");
     }
 
@@ -168,6 +169,38 @@ public final class EdgePlacesTest {
         Check.holds(8, "NoSuchElementException: another what.");
         for (int what : new int[] {Integer.MIN_VALUE, -1, 3, 4, Integer.MAX_VALUE}) {
             Check.throwsDue("what " + what, NoSuchElementException.class, () -> sky.pinner(0, what));
+        }
+    }
+
+    /** Pins, a pinner, acts, an image, and a text on the tape. */
+    private static PinnedSky rich() {
+        PinnedSky sky = Check.sky("pin 3 rust 9;pinner 4 pace 3 brass 2;tree 5 5;need 4 7;gale 30", "rust 2;strain 1");
+        sky.pin(0);
+        sky.image();
+        sky.fell(5);
+        Check.tape(sky, "stock 77;pin 14");
+        return sky;
+    }
+
+    private static void refusedAsking() {
+        Check.holds(7, "a call that throws changes nothing but the TAPE, where it is used up");
+        for (int no : new int[] {-1, 16}) {
+            Check.refused("place " + no, IndexOutOfBoundsException.class, EdgePlacesTest::rich, sky -> sky.place(no, 0));
+        }
+        for (int no : new int[] {-1, 10}) {
+            Check.refused("place 3, what " + no, NoSuchElementException.class, EdgePlacesTest::rich, sky -> sky.place(3, no));
+        }
+        Check.holds(8, "a call that throws changes nothing but the TAPE, where it is used up");
+        for (int no : new int[] {-1, 1}) {
+            Check.refused("pinner " + no, IndexOutOfBoundsException.class, EdgePlacesTest::rich, sky -> sky.pinner(no, 0));
+        }
+        for (int no : new int[] {-1, 3}) {
+            Check.refused("pinner 0, what " + no, NoSuchElementException.class, EdgePlacesTest::rich,
+                sky -> sky.pinner(0, no));
+        }
+        Check.holds(9, "a call that throws changes nothing but the TAPE, where it is used up");
+        for (int no : new int[] {-1, 16}) {
+            Check.refused("rusts " + no, IndexOutOfBoundsException.class, EdgePlacesTest::rich, sky -> sky.rusts(no));
         }
     }
 }

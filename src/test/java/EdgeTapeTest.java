@@ -14,6 +14,7 @@ public final class EdgeTapeTest {
         feedThatWouldBeMore();
         feedHighestFirst();
         feedBehindTheTape();
+        refusedBytes();
         endAtItsBounds();
         endThatIsRefused();
         endOfAllAndNothing();
@@ -170,6 +171,29 @@ public final class EdgeTapeTest {
         PinnedSky sky = new PinnedSky();
         Check.tape(sky, " ".repeat(395) + "pin 3");
         return sky;
+    }
+
+    /** Pins, a pinner, acts, an image, and a full tape. */
+    private static PinnedSky rich() {
+        PinnedSky sky = Check.sky("pin 3 rust 9;pinner 4 pace 3 brass 2;tree 5 5;gale 30", "rust 2;strain 1");
+        sky.pin(0);
+        sky.image();
+        sky.fell(5);
+        Check.tape(sky, "stock 77;pin 14" + " ".repeat(385));
+        return sky;
+    }
+
+    private static void refusedBytes() {
+        Check.holds(2, "NONE, and none come, if it would have more than 400.");
+        PinnedSky fed = rich();
+        Check.due("feed behind 400", fed.feed(1, 2, 3, 4, 5), -1);
+        Check.due("all is as it was", State.toTheEnd(fed), State.toTheEnd(rich()));
+        Check.holds(3, "false, and nothing happens, if it has fewer, or n is below 0.");
+        for (int n : new int[] {Integer.MIN_VALUE, -1, 401, Integer.MAX_VALUE}) {
+            PinnedSky cut = rich();
+            Check.due("end " + n + " of 400", cut.end(n), false);
+            Check.due("all is as it was behind end " + n, State.toTheEnd(cut), State.toTheEnd(rich()));
+        }
     }
 
     private static void feedHighestFirst() {

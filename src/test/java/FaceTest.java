@@ -8,16 +8,54 @@ import java.util.TreeSet;
 /** The public face: just the members of the document, and none that is seen from the package. */
 public final class FaceTest {
     private static final String[] METHODS = {
-        "int feed(int,int,int,int,int)", "boolean end(int)", "int sky()", "int law()", "int fault()",
-        "int place(int,int)", "int pinner(int,int)", "int rusts(int)", "int pin(int)", "int change(int)",
-        "int go(int,int)", "int pull(int)", "int hand(int,int)", "int fell(int)", "int height(int)",
-        "int days(int)", "int low()", "int held()", "int gives(boolean)", "int weakest()", "int key()",
-        "int fewest(int)", "int first()", "int spare()", "int round(int,int,boolean)", "int goes(int)",
-        "int before(int)", "int seen(boolean)", "int climb()", "int duke()", "int pay(int)", "int season()",
-        "int best()", "int lasts()", "int stars(int,int)", "int longest()", "int ahead(int,int,boolean)",
-        "int odds(int,int)", "int needs(int)", "int trial(int,boolean)", "int span(int,boolean)",
-        "int led(int,boolean)", "int log(int,int)", "int seed(int)", "boolean undo()", "void image()",
-        "boolean back()", "int count(int)",
+        "int feed(int,int,int,int,int)",
+        "boolean end(int)",
+        "int sky() throws IllegalArgumentException,UnsupportedOperationException",
+        "int law() throws IllegalArgumentException",
+        "int fault()",
+        "int place(int,int) throws IndexOutOfBoundsException,NoSuchElementException",
+        "int pinner(int,int) throws IndexOutOfBoundsException,NoSuchElementException",
+        "int rusts(int) throws IndexOutOfBoundsException",
+        "int pin(int) throws IndexOutOfBoundsException,IllegalStateException",
+        "int change(int) throws IndexOutOfBoundsException,IllegalStateException",
+        "int go(int,int) throws IndexOutOfBoundsException,IllegalArgumentException",
+        "int pull(int) throws IndexOutOfBoundsException,IllegalStateException",
+        "int hand(int,int) throws IndexOutOfBoundsException,IllegalArgumentException,IllegalStateException",
+        "int fell(int) throws IndexOutOfBoundsException",
+        "int height(int) throws IllegalArgumentException",
+        "int days(int) throws IllegalArgumentException",
+        "int low()",
+        "int held()",
+        "int gives(boolean)",
+        "int weakest()",
+        "int key()",
+        "int fewest(int)",
+        "int first()",
+        "int spare()",
+        "int round(int,int,boolean) throws IndexOutOfBoundsException",
+        "int goes(int) throws IndexOutOfBoundsException,IllegalArgumentException",
+        "int before(int) throws IllegalArgumentException",
+        "int seen(boolean) throws IllegalArgumentException",
+        "int climb() throws IllegalArgumentException",
+        "int duke()",
+        "int pay(int) throws IllegalArgumentException",
+        "int season()",
+        "int best()",
+        "int lasts()",
+        "int stars(int,int) throws IndexOutOfBoundsException,IllegalArgumentException",
+        "int longest()",
+        "int ahead(int,int,boolean) throws IndexOutOfBoundsException,IllegalArgumentException",
+        "int odds(int,int) throws IllegalArgumentException",
+        "int needs(int) throws IllegalArgumentException",
+        "int trial(int,boolean) throws IllegalArgumentException",
+        "int span(int,boolean) throws IllegalArgumentException",
+        "int led(int,boolean) throws IndexOutOfBoundsException",
+        "int log(int,int) throws NoSuchElementException",
+        "int seed(int)",
+        "boolean undo()",
+        "void image()",
+        "boolean back()",
+        "int count(int)",
     };
 
     public static void main(String[] args) {
@@ -63,6 +101,10 @@ public final class FaceTest {
         for (int i = 0; i < method.getParameterCount(); i++) {
             shape.append(i == 0 ? "" : ",").append(method.getParameterTypes()[i]);
         }
-        return shape.append(")").toString();
+        shape.append(")");
+        for (int i = 0; i < method.getExceptionTypes().length; i++) {
+            shape.append(i == 0 ? " throws " : ",").append(method.getExceptionTypes()[i].getSimpleName());
+        }
+        return shape.toString();
     }
 }
