@@ -205,6 +205,9 @@ public final class EdgeSeenTest {
         // 2 is there: none, 9, 14, both gone; at 2 and 3 it is the same for all, at 8 it hangs 11, 0, 11, 0
         Check.due("of those that fit", climb(told, 2, 20), 7);
         Check.due("all 137 sets", climb(Check.everywhere("pin #")), 0);
+        PinnedSky unparted = Check.everywhere("pin #");
+        Check.more(unparted, "tight 0;bare 0");
+        Check.due("all 137 sets are one part everywhere", climb(unparted), 1);
         // where a tree takes all 18, it hangs at 0 with the pin and without
         Check.due("trees hide it", climb(Check.sky("pin 7;tight 0;height 18;tree 0 9;tree 1 9")), 2);
         Check.due("trees of 8 do not", climb(Check.sky("pin 7;tight 0;height 18;tree 0 9;tree 1 8")), 1);
